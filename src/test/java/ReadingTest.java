@@ -9,7 +9,6 @@ public final class ReadingTest {
         {1, -13}, {1, 7}, {1, Integer.MIN_VALUE}, {1, Integer.MAX_VALUE}, {-1, 7},
         {100000000, -12},
     };
-    private static final ShortestDigits X = new ShortestDigits();
 
     public static void main(String[] args) {
         unitsOfAllCodes();
@@ -30,33 +29,36 @@ public final class ReadingTest {
 
     private static void unitsOfAllCodes() {
         for (int c = 0; c < Exact.CODES; c++) {
+            ShortestDigits x = new ShortestDigits();
             BigDecimal units = Exact.value(c).multiply(new BigDecimal(512));
-            Check.due("units(" + c + ")", X.units(c), units.intValueExact());
+            Check.due("units(" + c + ")", x.units(c), units.intValueExact());
         }
-        Check.due("units(0)", X.units(0), 0);
-        Check.due("units(64)", X.units(64), 64);
-        Check.due("units(127)", X.units(127), 127);
-        Check.due("units(128)", X.units(128), 128);
-        Check.due("units(129)", X.units(129), 130);
-        Check.due("units(1023)", X.units(1023), 4064 * 512);
+        ShortestDigits x = new ShortestDigits();
+        Check.due("units(0)", x.units(0), 0);
+        Check.due("units(64)", x.units(64), 64);
+        Check.due("units(127)", x.units(127), 127);
+        Check.due("units(128)", x.units(128), 128);
+        Check.due("units(129)", x.units(129), 130);
+        Check.due("units(1023)", x.units(1023), 4064 * 512);
     }
 
     private static void wordedEdges() {
-        Check.due("tie of 0 and 1", X.read(9765625, -10), 0);
-        Check.due("tie of 1 and 2", X.read(29296875, -10), 2);
-        Check.due("tie of 1022 and 1023", X.read(4048, 0), 1022);
-        Check.due("greater than 4064", X.read(40640001, -4), 1023);
-        Check.due("4096", X.read(4096, 0), 1023);
-        Check.due("the greatest decimal", X.read(99999999, 6), 1023);
-        Check.due("the least decimal but 0", X.read(1, -12), 0);
-        Check.due("names under 4080", X.names(1023, 40799999, -4), true);
-        Check.due("names at 4080", X.names(1023, 4080, 0), false);
-        Check.due("names at 408 e1", X.names(1023, 408, 1), false);
-        Check.due("names above 4080", X.names(1023, 40800001, -4), false);
-        Check.due("same", X.compare(256, 1, 0), 0);
-        Check.due("same, with zeros", X.compare(256, 10000000, -7), 0);
-        Check.due("less", X.compare(256, 10000001, -7), -1);
-        Check.due("greater", X.compare(256, 99999999, -8), 1);
+        ShortestDigits x = new ShortestDigits();
+        Check.due("tie of 0 and 1", x.read(9765625, -10), 0);
+        Check.due("tie of 1 and 2", x.read(29296875, -10), 2);
+        Check.due("tie of 1022 and 1023", x.read(4048, 0), 1022);
+        Check.due("greater than 4064", x.read(40640001, -4), 1023);
+        Check.due("4096", x.read(4096, 0), 1023);
+        Check.due("the greatest decimal", x.read(99999999, 6), 1023);
+        Check.due("the least decimal but 0", x.read(1, -12), 0);
+        Check.due("names under 4080", x.names(1023, 40799999, -4), true);
+        Check.due("names at 4080", x.names(1023, 4080, 0), false);
+        Check.due("names at 408 e1", x.names(1023, 408, 1), false);
+        Check.due("names above 4080", x.names(1023, 40800001, -4), false);
+        Check.due("same", x.compare(256, 1, 0), 0);
+        Check.due("same, with zeros", x.compare(256, 10000000, -7), 0);
+        Check.due("less", x.compare(256, 10000001, -7), -1);
+        Check.due("greater", x.compare(256, 99999999, -8), 1);
     }
 
     /** The decimals next to x on both sides, as near as eight digits allow, and x if it is one. */
@@ -95,35 +97,37 @@ public final class ReadingTest {
     }
 
     private static void checkDecimal(int d, int q) {
-        BigDecimal x = Exact.decimal(d, q);
-        int code = Exact.read(x);
+        BigDecimal exact = Exact.decimal(d, q);
+        int code = Exact.read(exact);
         String pair = "(" + d + ", " + q + ")";
-        Check.due("read" + pair, X.read(d, q), code);
-        boolean named = x.compareTo(new BigDecimal(4080)) < 0;
-        for (int c = Math.max(0, code - 1); c <= Math.min(1023, code + 1); c++) {
-            Check.due("names " + c + pair, X.names(c, d, q), named && c == code);
-            Check.due("compare " + c + pair, X.compare(c, d, q), Exact.value(c).compareTo(x));
-        }
-        for (int c = 0; c < Exact.CODES; c += 341) {
-            Check.due("names " + c + pair, X.names(c, d, q), named && c == code);
-            Check.due("compare " + c + pair, X.compare(c, d, q), Exact.value(c).compareTo(x));
+        ShortestDigits x = new ShortestDigits();
+        Check.due("read" + pair, x.read(d, q), code);
+        boolean named = exact.compareTo(new BigDecimal(4080)) < 0;
+        for (int c : new int[] {code - 1, code, code + 1, 0, 341, 682, 1023}) {
+            if (c >= 0 && c < Exact.CODES) {
+                int side = Exact.value(c).compareTo(exact);
+                Check.due("names " + c + pair, x.names(c, d, q), named && c == code);
+                Check.due("compare " + c + pair, x.compare(c, d, q), side);
+            }
         }
     }
 
     private static void wrongArguments() {
         for (int c : NO_CODES) {
-            Check.due("units(" + c + ")", X.units(c), ShortestDigits.BAD_ARG);
-            Check.due("names " + c, X.names(c, 0, 0), false);
-            Check.due("names 4096 " + c, X.names(c, 4096, 0), false);
-            Check.due("compare " + c, X.compare(c, 0, 0), 2);
-            Check.due("compare, both wrong " + c, X.compare(c, -1, 0), 2);
+            ShortestDigits x = new ShortestDigits();
+            Check.due("units(" + c + ")", x.units(c), ShortestDigits.BAD_ARG);
+            Check.due("names " + c, x.names(c, 0, 0), false);
+            Check.due("names 4096 " + c, x.names(c, 4096, 0), false);
+            Check.due("compare " + c, x.compare(c, 0, 0), 2);
+            Check.due("compare, both wrong " + c, x.compare(c, -1, 0), 2);
         }
         for (int[] no : NO_DECIMALS) {
             String pair = "(" + no[0] + ", " + no[1] + ")";
-            Check.due("read" + pair, X.read(no[0], no[1]), ShortestDigits.BAD_ARG);
             for (int c = 0; c < Exact.CODES; c++) {
-                Check.due("names " + c + pair, X.names(c, no[0], no[1]), false);
-                Check.due("compare " + c + pair, X.compare(c, no[0], no[1]), 2);
+                ShortestDigits x = new ShortestDigits();
+                Check.due("read" + pair, x.read(no[0], no[1]), ShortestDigits.BAD_ARG);
+                Check.due("names " + c + pair, x.names(c, no[0], no[1]), false);
+                Check.due("compare " + c + pair, x.compare(c, no[0], no[1]), 2);
             }
         }
     }

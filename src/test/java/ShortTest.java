@@ -4,7 +4,6 @@ import java.math.BigDecimal;
 public final class ShortTest {
     private static final int[] BEST_D = new int[Exact.CODES];
     private static final int[] BEST_Q = new int[Exact.CODES];
-    private static final ShortestDigits X = new ShortestDigits();
 
     public static void main(String[] args) {
         // With lengths rising, a code that has its decimal needs no longer one.
@@ -25,7 +24,7 @@ public final class ShortTest {
             for (int d = first; d < first * 10; d++) {
                 BigDecimal x = Exact.decimal(d, q);
                 if (d % 10 != 0 && x.compareTo(new BigDecimal(4080)) < 0) {
-                    offer(X.read(d, q), d, q, length);
+                    offer(new ShortestDigits().read(d, q), d, q, length);
                 }
             }
         }
@@ -53,31 +52,34 @@ public final class ShortTest {
     private static void checkCode(int c) {
         int d = c == 0 ? 0 : BEST_D[c];
         int q = c == 0 ? 0 : BEST_Q[c];
+        ShortestDigits x = new ShortestDigits();
         Check.due("a short decimal was found for " + c, c == 0 || d != 0, true);
-        Check.due("digits(" + c + ")", X.digits(c), d);
-        Check.due("scale(" + c + ")", X.scale(c), q);
-        Check.due("length(" + c + ")", X.length(c), String.valueOf(d).length());
+        Check.due("digits(" + c + ")", x.digits(c), d);
+        Check.due("scale(" + c + ")", x.scale(c), q);
+        Check.due("length(" + c + ")", x.length(c), String.valueOf(d).length());
         Check.due("it names " + c, Exact.names(c, Exact.decimal(d, q)), true);
     }
 
     private static void wordedEdges() {
-        Check.due("digits(0)", X.digits(0), 0);
-        Check.due("scale(0)", X.scale(0), 0);
-        Check.due("length(0)", X.length(0), 1);
+        ShortestDigits x = new ShortestDigits();
+        Check.due("digits(0)", x.digits(0), 0);
+        Check.due("scale(0)", x.scale(0), 0);
+        Check.due("length(0)", x.length(0), 1);
         // 0.001 and 0.002 both name code 1.
-        Check.due("digits(1)", X.digits(1), 2);
-        Check.due("scale(1)", X.scale(1), -3);
+        Check.due("digits(1)", x.digits(1), 2);
+        Check.due("scale(1)", x.scale(1), -3);
         // 4060 and 4070 both name code 1023.
-        Check.due("digits(1023)", X.digits(1023), 406);
-        Check.due("scale(1023)", X.scale(1023), 1);
-        Check.due("length(1023)", X.length(1023), 3);
+        Check.due("digits(1023)", x.digits(1023), 406);
+        Check.due("scale(1023)", x.scale(1023), 1);
+        Check.due("length(1023)", x.length(1023), 3);
     }
 
     private static void wrongArguments() {
+        ShortestDigits x = new ShortestDigits();
         for (int c : new int[] {-1, 1024, Integer.MIN_VALUE, Integer.MAX_VALUE}) {
-            Check.due("digits(" + c + ")", X.digits(c), ShortestDigits.BAD_ARG);
-            Check.due("scale(" + c + ")", X.scale(c), -100);
-            Check.due("length(" + c + ")", X.length(c), ShortestDigits.BAD_ARG);
+            Check.due("digits(" + c + ")", x.digits(c), ShortestDigits.BAD_ARG);
+            Check.due("scale(" + c + ")", x.scale(c), -100);
+            Check.due("length(" + c + ")", x.length(c), ShortestDigits.BAD_ARG);
         }
     }
 }

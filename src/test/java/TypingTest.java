@@ -59,7 +59,7 @@ public final class TypingTest {
         Check.due("empty again", x.back(), ShortestDigits.NONE);
     }
 
-    /** "9999" and a run of zeros and the like, with the point at every place. */
+    /** Texts with the point at every place, before and behind all digits too. */
     private static void pointAnywhere() {
         String[] texts = {"0", "5", "10", "0000", "1000", "4079", "4080", "00001953", "10000000",
             "99999999", "50000000", "40959999", "00010000", "12345678", "00097656"};
