@@ -1,10 +1,22 @@
-/** Counts the answers that are not the due ones, and ends a test with exit code 1 if there are any. */
+/** Counts the answers that are not the due ones; if there are any, a test ends with exit code 1. */
 final class Check {
-    private static final int SHOWN = 50;
+    private static final int SHOWN = 20;
     private static int checked = 0;
     private static int wrong = 0;
+    private static int shown = 0;
+    private static int sentences = 0;
+    private static int checkedBefore = 0;
+    private static String sentence = "";
 
     private Check() {
+    }
+
+    /** What follows, up to the next such call, tests this sentence of the document. */
+    static void sentence(String words) {
+        endSentence();
+        sentences++;
+        sentence = words;
+        shown = 0;
     }
 
     static void due(String call, long got, long want) {
@@ -13,8 +25,10 @@ final class Check {
             return;
         }
         wrong++;
-        if (wrong <= SHOWN) {
-            System.out.println(call + " answered " + got + ", due is " + want);
+        shown++;
+        if (shown <= SHOWN) {
+            String told = sentence.isEmpty() ? "" : "[" + sentence + "] ";
+            System.out.println(told + call + " answered " + got + ", due is " + want);
         }
     }
 
@@ -23,9 +37,20 @@ final class Check {
     }
 
     static void end() {
-        System.out.println(checked + " answers checked, " + wrong + " not as due");
+        endSentence();
+        String told = sentences == 0 ? "" : sentences + " sentences, ";
+        System.out.println(told + checked + " answers checked, " + wrong + " not as due");
         if (wrong != 0 || checked == 0) {
             System.exit(1);
         }
+    }
+
+    /** A sentence without an answer checked is not tested, which counts as wrong. */
+    private static void endSentence() {
+        if (sentences > 0 && checked == checkedBefore) {
+            wrong++;
+            System.out.println("[" + sentence + "] has no test");
+        }
+        checkedBefore = checked;
     }
 }

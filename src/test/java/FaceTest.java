@@ -16,9 +16,6 @@ public final class FaceTest {
     };
 
     public static void main(String[] args) {
-        Check.due("BAD_ARG", ShortestDigits.BAD_ARG, -1);
-        Check.due("FULL", ShortestDigits.FULL, -2);
-        Check.due("NONE", ShortestDigits.NONE, -4);
         Check.due("public final", ShortestDigits.class.getModifiers(),
                 Modifier.PUBLIC | Modifier.FINAL);
         TreeSet<String> due = new TreeSet<>(Arrays.asList(FACE));

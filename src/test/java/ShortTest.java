@@ -13,8 +13,6 @@ public final class ShortTest {
         for (int c = 0; c < Exact.CODES; c++) {
             checkCode(c);
         }
-        wordedEdges();
-        wrongArguments();
         Check.end();
     }
 
@@ -58,28 +56,5 @@ public final class ShortTest {
         Check.due("scale(" + c + ")", x.scale(c), q);
         Check.due("length(" + c + ")", x.length(c), String.valueOf(d).length());
         Check.due("it names " + c, Exact.names(c, Exact.decimal(d, q)), true);
-    }
-
-    private static void wordedEdges() {
-        ShortestDigits x = new ShortestDigits();
-        Check.due("digits(0)", x.digits(0), 0);
-        Check.due("scale(0)", x.scale(0), 0);
-        Check.due("length(0)", x.length(0), 1);
-        // 0.001 and 0.002 both name code 1.
-        Check.due("digits(1)", x.digits(1), 2);
-        Check.due("scale(1)", x.scale(1), -3);
-        // 4060 and 4070 both name code 1023.
-        Check.due("digits(1023)", x.digits(1023), 406);
-        Check.due("scale(1023)", x.scale(1023), 1);
-        Check.due("length(1023)", x.length(1023), 3);
-    }
-
-    private static void wrongArguments() {
-        ShortestDigits x = new ShortestDigits();
-        for (int c : new int[] {-1, 1024, Integer.MIN_VALUE, Integer.MAX_VALUE}) {
-            Check.due("digits(" + c + ")", x.digits(c), ShortestDigits.BAD_ARG);
-            Check.due("scale(" + c + ")", x.scale(c), -100);
-            Check.due("length(" + c + ")", x.length(c), ShortestDigits.BAD_ARG);
-        }
     }
 }

@@ -5,58 +5,12 @@ public final class TypingTest {
     private static final int CALLS = 512;
 
     public static void main(String[] args) {
-        newObject();
-        wordedEdges();
         pointAnywhere();
         twoObjects();
         for (int run = 0; run < 300; run++) {
             manyCalls(run);
         }
         Check.end();
-    }
-
-    private static void newObject() {
-        ShortestDigits x = new ShortestDigits();
-        Check.due("new: typed", x.typed(), 0);
-        Check.due("new: typedDigits", x.typedDigits(), 0);
-        Check.due("new: spare", x.spare(), 0);
-        Check.due("new: back", x.back(), ShortestDigits.NONE);
-        Check.due("new: back again", x.back(), ShortestDigits.NONE);
-        Check.due("new: type", x.type(7), 1);
-    }
-
-    private static void wordedEdges() {
-        ShortestDigits x = new ShortestDigits();
-        for (int no : new int[] {-1, 11, Integer.MIN_VALUE, Integer.MAX_VALUE}) {
-            Check.due("type(" + no + ")", x.type(no), ShortestDigits.BAD_ARG);
-        }
-        for (int i = 1; i <= 8; i++) {
-            Check.due("digit " + i, x.type(i), i);
-        }
-        Check.due("a ninth digit", x.type(9), ShortestDigits.FULL);
-        Check.due("a ninth digit 0", x.type(0), ShortestDigits.FULL);
-        Check.due("a wrong key when full", x.type(11), ShortestDigits.BAD_ARG);
-        Check.due("refused calls change nothing", x.typedDigits(), 12345678);
-        Check.due("a point behind eight digits", x.type(10), 8);
-        Check.due("a second point", x.type(10), ShortestDigits.FULL);
-        Check.due("a wrong key when full", x.type(-1), ShortestDigits.BAD_ARG);
-        Check.due("back: point", x.back(), 10);
-        Check.due("back: digit", x.back(), 8);
-        Check.due("seven digits", x.typedDigits(), 1234567);
-        Check.due("the point again", x.type(10), 7);
-        Check.due("a digit behind it", x.type(0), 8);
-        Check.due("full again", x.type(0), ShortestDigits.FULL);
-        x.clear();
-        Check.due("clear: typedDigits", x.typedDigits(), 0);
-        Check.due("clear: typed", x.typed(), 0);
-        Check.due("clear: spare", x.spare(), 0);
-        Check.due("clear: back", x.back(), ShortestDigits.NONE);
-        Check.due("clear: a point may come", x.type(10), 0);
-        Check.due("a point only: typed", x.typed(), 0);
-        Check.due("a point only: typedDigits", x.typedDigits(), 0);
-        Check.due("a point only: spare", x.spare(), 0);
-        Check.due("a point only: back", x.back(), 10);
-        Check.due("empty again", x.back(), ShortestDigits.NONE);
     }
 
     /** Texts with the point at every place, before and behind all digits too. */
@@ -68,7 +22,7 @@ public final class TypingTest {
                 ShortestDigits x = new ShortestDigits();
                 Model model = new Model();
                 for (char key : (text.substring(0, at) + "." + text.substring(at)).toCharArray()) {
-                    int k = key == '.' ? 10 : key - '0';
+                    int k = Texts.key(key);
                     Check.due("type in " + text, x.type(k), model.type(k));
                     model.checkAnswers(x);
                 }
@@ -135,7 +89,7 @@ public final class TypingTest {
             }
             char last = text.charAt(text.length() - 1);
             text = text.substring(0, text.length() - 1);
-            return last == '.' ? 10 : last - '0';
+            return Texts.key(last);
         }
 
         private String digits() {
